@@ -11,6 +11,8 @@ public final class LitmusRunner {
     private static final int HARTS = 4, REGISTERS = 4, LOCATIONS = 3, VALUES = 4, MODELS = 3;
     private static final int MOST_INSTRUCTIONS = 6, MOST_ACCESSES = 6, MOST_READERS = 4;
     private static final int ROW = 6, NO_REGISTER = -1;
+    // A value has 2 bits in an OUTCOME.
+    private static final int BITS = 2;
 
     private static final int LOAD = 0, STORE = 1, SWAP = 2, ADDING = 3, RESERVE = 4, CONDITIONAL = 5;
     private static final int FENCE = 6, SET = 7, ADD = 8, XOR = 9, SKIP = 10;
@@ -67,10 +69,21 @@ public final class LitmusRunner {
     }
 
     public int find() {
-        if (!found) {
-            tryAllWays();
-            found = true;
+        if (found) {
+            return outcomes.size();
         }
+        outcomes.removeAll();
+        choices.restart();
+        ways = 0;
+        boolean more = true;
+        for (int n = 0; more && n < MOST_WAYS; n++) {
+            way.walk(model);
+            if (way.isPlausible() && ordering.search()) {
+                ways++;
+            }
+            more = choices.advance();
+        }
+        found = true;
         return outcomes.size();
     }
 
@@ -119,20 +132,6 @@ public final class LitmusRunner {
                 return found ? ways : NONE;
             default:
                 return BAD;
-        }
-    }
-
-    private void tryAllWays() {
-        outcomes.removeAll();
-        choices.restart();
-        ways = 0;
-        boolean more = true;
-        for (int n = 0; more && n < MOST_WAYS; n++) {
-            way.walk(model);
-            if (way.isPlausible() && ordering.search()) {
-                ways++;
-            }
-            more = choices.advance();
         }
     }
 
@@ -408,16 +407,22 @@ public final class LitmusRunner {
             return accesses[i];
         }
 
-        /** The OUTCOME, if the WRITES of these numbers (or NONE) are the last to their locations. */
-        long outcomeWith(int[] latest) {
-            long outcome = 0;
-            for (int x = LOCATIONS - 1; x >= 0; x--) {
-                outcome = outcome * VALUES + (latest[x] == NONE ? 0 : accesses[latest[x]].put);
-            }
+        /** The registers' part of the OUTCOME. */
+        long registersPart() {
+            long part = 0;
             for (int r = HARTS * REGISTERS - 1; r >= 0; r--) {
-                outcome = outcome * VALUES + values[r];
+                part = part * VALUES + values[r];
             }
-            return outcome;
+            return part;
+        }
+
+        /** The locations' part, if these WRITES (or NONE) are the last to their locations. */
+        long locationsPart(int[] latest) {
+            long part = 0;
+            for (int x = LOCATIONS - 1; x >= 0; x--) {
+                part = part * VALUES + (latest[x] == NONE ? 0 : accesses[latest[x]].put);
+            }
+            return part << BITS * HARTS * REGISTERS;
         }
 
         void walk(int newModel) {
@@ -490,7 +495,13 @@ public final class LitmusRunner {
                     setRegister(row[1], valueOf(row[2]) ^ valueOf(row[3]), carriedBy(row[2]) | carriedBy(row[3]));
                     break;
                 case CONDITIONAL:
-                    conditional(row);
+                    if (fails(row)) {
+                        setRegister(row[1], 1, 0);
+                    } else {
+                        makeAccess(row);
+                    }
+                    // A later CONDITIONAL belongs to this one, and so FAILS.
+                    reserve = NONE;
                     break;
                 default:
                     makeAccess(row);
@@ -510,16 +521,9 @@ public final class LitmusRunner {
             fencedFromWrites |= (secondKind & OF_WRITES) != 0 ? behind : 0;
         }
 
-        private void conditional(int[] row) {
-            int location = place(row[3], row[4]);
-            boolean mayPass = reserve != NONE && accesses[reserve].location == location;
-            if (mayPass && choices.choose(2) == 0) {
-                makeAccess(row);
-            } else {
-                setRegister(row[1], 1, 0);
-            }
-            // A later CONDITIONAL belongs to this one, and so FAILS.
-            reserve = NONE;
+        private boolean fails(int[] row) {
+            boolean mayPass = reserve != NONE && accesses[reserve].location == place(row[3], row[4]);
+            return !mayPass || choices.choose(2) == 1;
         }
 
         /** Any ACCESS: its numbers, what it needs, what it reads and writes. */
@@ -627,6 +631,7 @@ public final class LitmusRunner {
         private final int[] spots;
         private final int[] sources;
         private final int[] latest;
+        private long registersPart;
         private boolean any;
 
         Ordering(Way way, Outcomes outcomes) {
@@ -635,12 +640,14 @@ public final class LitmusRunner {
             spots = new int[MOST_ACCESSES];
             sources = new int[MOST_ACCESSES];
             latest = new int[LOCATIONS];
+            registersPart = 0;
             any = false;
         }
 
         /** Keeps the OUTCOMES of the way: whether there is an ORDER. */
         boolean search() {
             any = false;
+            registersPart = way.registersPart();
             Arrays.fill(latest, NONE);
             extend(0, 0);
             return any;
@@ -649,7 +656,7 @@ public final class LitmusRunner {
         private void extend(int placed, int depth) {
             if (depth >= way.size()) {
                 any = true;
-                outcomes.keep(way.outcomeWith(latest));
+                outcomes.keep(registersPart + way.locationsPart(latest));
                 return;
             }
             for (int i = 0; i < way.size(); i++) {
@@ -784,7 +791,8 @@ public final class LitmusRunner {
         private int spotOf(long outcome) {
             int low = 0;
             int high = size;
-            while (low < high) {
+            // A row has far less than 2 to the power 32 spots to halve.
+            for (int step = 0; low < high && step < 32; step++) {
                 int middle = (low + high) / 2;
                 if (rows[middle] < outcome) {
                     low = middle + 1;
@@ -796,7 +804,7 @@ public final class LitmusRunner {
         }
 
         private static int partOf(long outcome, int what) {
-            return (int) (outcome >> 2 * what) & 3;
+            return (int) (outcome >> BITS * what) & VALUES - 1;
         }
     }
 }
