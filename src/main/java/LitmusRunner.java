@@ -385,8 +385,8 @@ public final class LitmusRunner {
         private int reserve;
         private int byWay;
         private int neededForPlaces;
-        private int fencedFromReads;
-        private int fencedFromWrites;
+        private int fencedBeforeReads;
+        private int fencedBeforeWrites;
 
         Way(Programs programs, Choices choices) {
             this.programs = programs;
@@ -462,8 +462,8 @@ public final class LitmusRunner {
             reserve = NONE;
             byWay = 0;
             neededForPlaces = 0;
-            fencedFromReads = 0;
-            fencedFromWrites = 0;
+            fencedBeforeReads = 0;
+            fencedBeforeWrites = 0;
             int length = programs.length(hart);
             for (int i = 0; i < length; i++) {
                 int[] row = programs.row(hart, i);
@@ -517,8 +517,8 @@ public final class LitmusRunner {
                 boolean write = access.writes && (firstKind & OF_WRITES) != 0;
                 behind |= read || write ? 1 << i : 0;
             }
-            fencedFromReads |= (secondKind & OF_READS) != 0 ? behind : 0;
-            fencedFromWrites |= (secondKind & OF_WRITES) != 0 ? behind : 0;
+            fencedBeforeReads |= (secondKind & OF_READS) != 0 ? behind : 0;
+            fencedBeforeWrites |= (secondKind & OF_WRITES) != 0 ? behind : 0;
         }
 
         private boolean fails(int[] row) {
@@ -586,10 +586,10 @@ public final class LitmusRunner {
             int needed = b.byPlace | b.byValue;
             int fenced = 0;
             if (b.reads) {
-                fenced |= fencedFromReads;
+                fenced |= fencedBeforeReads;
             }
             if (b.writes) {
-                fenced |= fencedFromWrites;
+                fenced |= fencedBeforeWrites;
                 needed |= byWay | neededForPlaces;
             }
             boolean rule1 = b.writes && a.location == b.location;

@@ -18,6 +18,7 @@ public final class OracleTest {
     public static void main(String[] args) {
         int rounds = args.length > 0 ? Integer.parseInt(args[0]) : 1500;
         seed += args.length > 1 ? Long.parseLong(args[1]) : 0;
+        check(-1, manyOutcomes());
         for (int round = 0; round < rounds && wrong < 10; round++) {
             check(round, round % 2 == 0 ? chains() : program(round));
         }
@@ -83,6 +84,15 @@ public final class OracleTest {
             rows.add(row);
         }
         return rows;
+    }
+
+    private static List<int[]> manyOutcomes() {
+        return List.of(
+            new int[] {0, 7, 3, 2, 0, 0, 0}, new int[] {1, 7, 3, 3, 0, 0, 0},
+            new int[] {2, 7, 3, 1, 0, 0, 0}, new int[] {3, 7, 3, 2, 0, 0, 0},
+            new int[] {0, 2, 1, 1, 1, 1, 0}, new int[] {1, 2, 2, 3, 1, -1, 0},
+            new int[] {0, 2, 0, 2, 1, -1, 0}, new int[] {1, 2, 0, 3, 1, 1, 0},
+            new int[] {3, 1, 3, 1, -1, 0, 0}, new int[] {2, 1, 3, 1, -1, 0, 0});
     }
 
     /**
