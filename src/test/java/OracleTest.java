@@ -10,22 +10,21 @@ import java.util.TreeSet;
  */
 public final class OracleTest {
     private static final int NO = -1;
-    private static int wrong = 0;
     private static long seed = 20261115;
-    // Every second program is made on the object of the one before, which must leave nothing behind.
+    // An object is used for one program after another, which must leave nothing behind.
     private static LitmusRunner used = null;
+    private static int made = 0;
 
     public static void main(String[] args) {
         int rounds = args.length > 0 ? Integer.parseInt(args[0]) : 1500;
         seed += args.length > 1 ? Long.parseLong(args[1]) : 0;
-        check(-1, manyOutcomes());
-        for (int round = 0; round < rounds && wrong < 10; round++) {
-            check(round, round % 2 == 0 ? chains() : program(round));
-        }
-        System.out.println(wrong == 0 ? "OracleTest: all as due" : "OracleTest: " + wrong + " wrong");
-        if (wrong != 0) {
-            System.exit(1);
-        }
+        Cases.test("promises 4 to 9 and 11: as the document's words say it", x -> {
+            check(-1, manyOutcomes());
+            for (int round = 0; round < rounds && Cases.wrong() == 0; round++) {
+                check(round, round % 2 == 0 ? chains() : program(round));
+            }
+        });
+        Cases.finish("OracleTest");
     }
 
     /** An instruction as it was done, with all that the document says of it. */
@@ -168,7 +167,9 @@ public final class OracleTest {
     }
 
     private static int[] instruction(int h, int locations, boolean reserves) {
-        int kind = reserves ? oneOf(0, 1, 1, 2, 3, 4, 4, 5, 5, 5, 6, 7, 8, 10) : oneOf(0, 0, 0, 1, 1, 1, 1, 2, 3, 6, 6, 7, 8, 9, 10);
+        int kind = reserves
+            ? oneOf(0, 1, 1, 2, 3, 4, 4, 5, 5, 5, 6, 7, 8, 10)
+            : oneOf(0, 0, 0, 1, 1, 1, 1, 2, 3, 6, 6, 7, 8, 9, 10);
         int x = random(locations);
         int y = random(4) == 0 ? random(4) : -1;
         int r = random(4);
@@ -197,43 +198,58 @@ public final class OracleTest {
     // ---- one program, in all models ----
 
     private static void check(int round, List<int[]> rows) {
-        LitmusRunner x = used == null ? new LitmusRunner() : used;
-        used = used == null ? x : null;
-        x.clear();
-        List<List<int[]>> programs = new ArrayList<>();
-        for (int h = 0; h < 4; h++) {
-            programs.add(new ArrayList<>());
-        }
-        for (int[] row : rows) {
-            int number = x.add(row[0], row[1], row[2], row[3], row[4], row[5], row[6]);
-            if (number >= 0) {
-                programs.get(row[0]).add(row);
-            }
-        }
+        makeReady(rows.size() + 1);
+        List<List<int[]>> programs = write(rows);
         List<TreeSet<Long>> outcomes = List.of(new TreeSet<>(), new TreeSet<>(), new TreeSet<>());
         List<Set<String>> ways = List.of(new HashSet<>(), new HashSet<>(), new HashSet<>());
         answer(programs, outcomes, ways);
         for (int m = 0; m < 3; m++) {
-            x.model(m);
+            if (makeReady(2 * outcomes.get(m).size() + 20)) {
+                made += rows.size() + 1;
+                write(rows);
+            }
+            used.model(m);
             String where = "round " + round + ", model " + m + ": ";
-            due(where + "find", x.find(), outcomes.get(m).size());
-            due(where + "ways", x.count(5), ways.get(m).size());
-            compare(where, x, outcomes.get(m));
-            if (wrong != 0) {
+            Cases.due(where + "find", used.find(), outcomes.get(m).size());
+            Cases.due(where + "ways", used.count(5), ways.get(m).size());
+            compare(where, outcomes.get(m));
+            if (Cases.wrong() != 0) {
                 rows.forEach(row -> System.out.println(java.util.Arrays.toString(row)));
                 return;
             }
         }
     }
 
-    private static void compare(String where, LitmusRunner x, TreeSet<Long> outcomes) {
+    /** Counts calls; a new object, and true, where the one in use would have more than 512. */
+    private static boolean makeReady(int calls) {
+        boolean isNew = used == null || made + calls > 512;
+        used = isNew ? new LitmusRunner() : used;
+        made = isNew ? calls : made + calls;
+        return isNew;
+    }
+
+    /** The programs, each of the instructions that were taken. */
+    private static List<List<int[]>> write(List<int[]> rows) {
+        used.clear();
+        List<List<int[]>> programs = List.of(
+            new ArrayList<>(), new ArrayList<>(), new ArrayList<>(), new ArrayList<>());
+        for (int[] row : rows) {
+            int number = used.add(row[0], row[1], row[2], row[3], row[4], row[5], row[6]);
+            if (number >= 0) {
+                programs.get(row[0]).add(row);
+            }
+        }
+        return programs;
+    }
+
+    private static void compare(String where, TreeSet<Long> outcomes) {
         int i = 0;
         for (long outcome : outcomes) {
-            due(where + "outcome", x.outcome(i++), outcome);
+            Cases.due(where + "outcome", used.outcome(i++), outcome);
             long near = outcome + random(2);
-            due(where + "is", x.is(near), outcomes.contains(near) ? 1 : 0);
+            Cases.due(where + "is", used.is(near), outcomes.contains(near) ? 1 : 0);
         }
-        due(where + "outcome behind the last", x.outcome(i), -1);
+        Cases.due(where + "outcome behind the last", used.outcome(i), -1);
         for (int n = 0; n < 8; n++) {
             int what = random(19);
             int other = random(19);
@@ -245,8 +261,8 @@ public final class OracleTest {
                 with += part(outcome, what) == value ? 1 : 0;
                 both += part(outcome, what) == value && part(outcome, other) == otherValue ? 1 : 0;
             }
-            due(where + "with", x.with(what, value), with);
-            due(where + "both", x.both(what, value, other, otherValue), both);
+            Cases.due(where + "with", used.with(what, value), with);
+            Cases.due(where + "both", used.both(what, value, other, otherValue), both);
         }
     }
 
@@ -255,13 +271,6 @@ public final class OracleTest {
             outcome /= 4;
         }
         return (int) (outcome % 4);
-    }
-
-    private static void due(String what, long got, long want) {
-        if (got != want) {
-            wrong++;
-            System.out.println(what + " answered " + got + ", due is " + want);
-        }
     }
 
     // ---- what the document says ----
