@@ -100,6 +100,10 @@ public final class LitmusTest {
                     "set 3 1; st 3 x; " + fence + "swap 0 3 y", "ld 0 y aq; ld 1 x");
             }
         }
+        ends("rule 4: two fences, the first one holds writes", "1:0=1 1:1=0", "no no no",
+            "set 3 1; st 3 x; fence 2 2; fence 1 1; st 3 y", "ld 0 y aq; ld 1 x");
+        ends("rule 4: two fences, the first one holds reads", "1:0=1 1:1=0", "no no no",
+            "set 3 1; st 3 x; st 3 y rl", "ld 0 y; fence 1 1; fence 2 2; ld 1 x");
         ends("rule 4: a fence left out", "1:0=1 1:1=0", "yes no no",
             "set 3 1; st 3 x; skip 0 1; fence 3 3; st 3 y", "ld 0 y; fence 3 3; ld 1 x");
         ends("rule 4: a fence of another hart", "0:0=0 1:0=0", "yes yes no",
@@ -218,6 +222,8 @@ public final class LitmusTest {
             "set 3 1; res 0 x; cond 1 0 x; st 1 y", "ld 0 y; st 0 x");
         ends("CARRY: a conditional that fails, into a register that carried", "0:0=1 0:1=1 1:0=1", "yes no no",
             "res 0 x; add 1 0 2; cond 1 3 x; st 1 y", "ld 0 y; st 0 x");
+        ends("CARRY: a load, just that one", "0:1=1 1:0=1", "yes no no",
+            "set 3 1; ld 0 x; add 1 0 2; ld 0 z; st 3 y+0", "ld 0 y; st 0 x");
         ends("CARRY: a swap's register", "0:0=1 1:0=1", "no no no",
             "set 3 2; swap 0 3 z; st 0 y", "ld 0 y; st 0 z");
         ends("CARRY: both registers of ADD", "0:0=1 1:0=1", "no no no",

@@ -20,6 +20,7 @@ public final class OracleTest {
         seed += args.length > 1 ? Long.parseLong(args[1]) : 0;
         Cases.test("promises 4 to 9 and 11: as the document's words say it", x -> {
             check(-1, manyOutcomes());
+            check(-2, manyChoices());
             for (int round = 0; round < rounds && Cases.wrong() == 0; round++) {
                 check(round, round % 2 == 0 ? chains() : program(round));
             }
@@ -92,6 +93,15 @@ public final class OracleTest {
             new int[] {0, 2, 1, 1, 1, 1, 0}, new int[] {1, 2, 2, 3, 1, -1, 0},
             new int[] {0, 2, 0, 2, 1, -1, 0}, new int[] {1, 2, 0, 3, 1, 1, 0},
             new int[] {3, 1, 3, 1, -1, 0, 0}, new int[] {2, 1, 3, 1, -1, 0, 0});
+    }
+
+    /** As many reads as fit, and as many that may FAIL as fit beside them. */
+    private static List<int[]> manyChoices() {
+        return List.of(
+            new int[] {0, 7, 3, 3, 0, 0, 0}, new int[] {1, 7, 3, 3, 0, 0, 0},
+            new int[] {0, 4, 0, 0, -1, 0, 0}, new int[] {0, 5, 1, 3, 0, -1, 0},
+            new int[] {1, 4, 0, 0, -1, 0, 0}, new int[] {1, 5, 1, 3, 0, -1, 0},
+            new int[] {2, 0, 0, 0, -1, 0, 0}, new int[] {3, 0, 0, 0, -1, 0, 0});
     }
 
     /**

@@ -348,6 +348,10 @@ public final class Promise5Test {
                 Cases.due("count(5)", x.count(5), 21);
             }
         });
+        ends("4 that read, each the least or the greatest value",
+            new String[] {"set 3 3; st 3 x", "ld 0 x; ld 1 x; ld 2 x; ld 3 x"},
+            "0:3=3 x=3", "0:3=3 1:3=3 x=3", "0:3=3 1:2=3 1:3=3 x=3", "0:3=3 1:1=3 1:2=3 1:3=3 x=3",
+            "0:3=3 1:0=3 1:1=3 1:2=3 1:3=3 x=3");
         Cases.test("promise 5: 6 accesses, none of them reads", x -> {
             Texts.write(x, "set 3 1; st 3 x; st 3 y", "set 3 2; st 3 x; st 3 y", "set 3 3; st 3 x; st 3 y");
             x.model(2);

@@ -265,6 +265,16 @@ public final class Promises6To11Test {
             Cases.due("is of what MODEL 2 rules out", x.is(Texts.outcome(TWO_HARTS_ENDS[0])), 0);
             Cases.due("is of what MODEL 2 leaves", x.is(Texts.outcome(TWO_HARTS_ENDS[1])), 1);
         });
+        Cases.test("promise 9: what was found before and is more than all that is found", x -> {
+            Texts.write(x, "set 3 1; st 3 x", "set 3 2; st 3 x", "set 3 3; st 3 x");
+            Cases.due("find()", x.find(), 3);
+            long[] before = {x.outcome(0), x.outcome(1), x.outcome(2)};
+            x.clear();
+            x.find();
+            for (long outcome : before) {
+                Cases.due("is(" + outcome + ")", x.is(outcome), 0);
+            }
+        });
     }
 
     private static void instruction() {
